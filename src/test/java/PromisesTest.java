@@ -248,6 +248,9 @@ public final class PromisesTest {
     fill(x, 3, 3, 7);
     refusedAdd(x, 3, 1, 1);
     refusedAdd(x, 3, 5, 3);
+    x = house(3, 0, 7);
+    x.cross(1, 0, 1);
+    refusedAdd(x, 1, 7, 0);
   }
 
   private static void promise5() {
@@ -428,6 +431,28 @@ public final class PromisesTest {
     isNot(x, 1, 0, 0, 7);
     isNot(x, 2, 1, 0, 0);
     isNot(x, 4, 0, 7, 7);
+    // neighbours by number: none is passed over
+    x = house(4, 1, 2, 3);
+    isNot(x, 2, 1, 1, 2);
+    isNot(x, 1, 0, 1, 3);
+    isNot(x, 4, 1, 3, 3);
+    x = house(4, 3, 7, 11, 12, 15);
+    isNot(x, 2, 2, 3, 12);
+    x = house(4, 7, 11, 13, 14);
+    isNot(x, 2, 3, 7, 11);
+    due("is(0, 2, 2)", x.is(0, 2, 2), 1);
+    due("is(0, 1, 0)", x.is(0, 1, 0), 1);
+    due("is(0, 4, 3)", x.is(0, 4, 3), 1);
+    x = house(5, 9, 10, 17);
+    isNot(x, 2, 1, 10, 17);
+    x = house(4, 0, 1, 2);
+    isNot(x, 4, 1, 0, 0);
+    isNot(x, 1, 0, 0, 1);
+    x.make(9, 0, 0);
+    due("is(9, 4, 1)", x.is(9, 4, 1), 1);
+    fill(x, 9, 15);
+    due("is(9, 4, 1)", x.is(9, 4, 1), 0);
+    due("clash()", x.clash(), 15 * 65);
     isWrong();
   }
 
@@ -539,6 +564,10 @@ public final class PromisesTest {
     sets(x, 1, 63);
     x.ends(0, false, 1);
     sets(x, 1, 0);
+    x.make(2, 0, 0);
+    fill(x, 2, 1, 2, 3);
+    due("ends(2, false, 3)", x.ends(2, false, 3), 2);
+    sets(x, 3, 1, 2);
     familyAsked("ends(.., false, 3)", (y, place) -> y.ends(place, false, 3));
     outOfRange("ends(.., true, 16)", (y, place) -> y.ends(place, true, 16));
     outOfRange("ends(.., false, -1)", (y, place) -> y.ends(place, false, -1));
@@ -560,6 +589,13 @@ public final class PromisesTest {
     due("mix(0, 4, 4, 5)", x.mix(0, 4, 4, 5), 0);
     due("mix(0, 4, 5, 5)", x.mix(0, 4, 5, 5), 0);
     due("mix(0, 0, 3, 0)", x.mix(0, 0, 3, 0), 0);
+    SetHouse small = house(3, 3, 6);
+    small.make(1, 0, 0);
+    fill(small, 1, 0, 1, 2);
+    due("mix(0, 1, 4, 2)", small.mix(0, 1, 4, 2), 3);
+    sets(small, 2, 0, 1, 2);
+    due("mix(0, 1, 5, 2)", small.mix(0, 1, 5, 2), 3);
+    sets(small, 2, 3, 6, 7);
     twoAsked("mix(.., .., 0, 3)", (y, a, b) -> y.mix(a, b, 0, 3));
     outOfRange("mix(.., 0, 6, 3)", (y, place) -> y.mix(place, 0, 6, 3));
     outOfRange("mix(.., 0, -1, 3)", (y, place) -> y.mix(place, 0, -1, 3));
@@ -628,6 +664,9 @@ public final class PromisesTest {
     SetHouse x = house(3, 1, 6, 7);
     due("turned(0, 0021, 1)", x.turned(0, 0021, 1), 3);
     sets(x, 1, 2, 5, 7);
+    SetHouse low = house(3, 0, 1, 2, 3);
+    due("turned(0, 0021, 1)", low.turned(0, 0021, 1), 4);
+    sets(low, 1, 0, 2, 4, 6);
     int[] t = {0, 0, 1, 0, 2};
     for (int kind = 0; kind <= 4; kind++) {
       x.make(2, kind, t[kind]);
@@ -688,6 +727,10 @@ public final class PromisesTest {
     due("pushed(0)", x.pushed(0), 3);
     sets(x, 0, 3, 5, 6);
     due("pushed(0) again", x.pushed(0), 0);
+    SetHouse six = house(6, 48, 56);
+    // 48: 1 to 0 no; 4 to 0: 33; 5 to 1: 3. 56: 3 to 0: 49; 4 to 1: 35; 5 to 2: 7. Each PUSH counts once.
+    due("pushed(0) of six", six.pushed(0), 5);
+    sets(six, 0, 3, 7);
     x.make(1, 4, 1);
     fill(x, 1, 8);
     due("pushed(1)", x.pushed(1), 1);
@@ -711,6 +754,9 @@ public final class PromisesTest {
     due("first(2, 7, 0)", x.first(2, 7, 0), -1);
     sets(x, 0, 3, 5, 6, 9, 10, 12);
     due("first(2, 0, 0)", x.first(2, 0, 0), 0);
+    sets(x, 0);
+    due("first(0, 0, 0)", x.first(0, 0, 0), 0);
+    sets(x, 0);
     due("holds(0)", x.holds(0), 4);
     due("first(0, 1, 0)", x.first(0, 1, 0), 1);
     sets(x, 0, 0);
@@ -734,6 +780,9 @@ public final class PromisesTest {
     due("sum(0) of none", x.sum(0), 0);
     x.rest(0, false, 0);
     due("sum(0) of all", x.sum(0), 7 * 720);
+    x.make(4, 0, 0);
+    fill(x, 4, 1, 3);
+    due("sum(4)", x.sum(4), 120 + 48);
     familyAsked("sum(..)", (y, place) -> place == 0 ? 0 : y.sum(place));
   }
 
@@ -854,6 +903,9 @@ public final class PromisesTest {
     due("weight(0, 3, 9) of none", all.weight(0, 3, 9), 0);
     all.rest(0, false, 0);
     due("weight(0, 3, 9) of all", all.weight(0, 3, 9), 531441);
+    all.make(4, 0, 0);
+    fill(all, 4, 3);
+    due("weight(4, 2, 3)", all.weight(4, 2, 3), 4);
     familyAsked("weight(.., 1, 2)", (y, place) -> place == 0 ? 0 : y.weight(place, 1, 2));
     int[][] bad = {{-1, 2}, {3, 2}, {0, 0}, {0, 10}, {0, -1}, {MIN, 3}, {MAX, MAX}};
     for (int[] b : bad) outOfRange("weight(.., " + b[0] + ", " + b[1] + ")", (y, place) -> y.weight(place, b[0], b[1]));
@@ -866,6 +918,10 @@ public final class PromisesTest {
     due("matters(0, 2)", x.matters(0, 2), 4);
     x.rest(0, false, 1);
     due("matters(1, 2) of the rest", x.matters(1, 2), 4);
+    x.make(4, 0, 0);
+    fill(x, 4, 6);
+    due("matters(4, 0)", x.matters(4, 0), 1);
+    due("matters(4, 1)", x.matters(4, 1), 1);
     SetHouse six = house(6, 63);
     for (int i = 0; i < 6; i++) due("matters(0, " + i + ")", six.matters(0, i), 1);
     familyAsked("matters(.., 3)", (y, place) -> place == 0 ? 0 : y.matters(place, 3));
@@ -911,6 +967,16 @@ public final class PromisesTest {
     due("flower(0, 4)", x.flower(0, 4), -2);
     x = house(6, 7);
     due("flower(0, 2) of one", x.flower(0, 2), -2);
+    // what looks like a further petal has more than the core in common with one
+    due("flower(0, 3) of 3, 5, 7", house(6, 3, 5, 7).flower(0, 3), -2);
+    due("flower(0, 4) of 3, 5, 9, 11", house(6, 3, 5, 9, 11).flower(0, 4), -2);
+    due("flower(0, 3) of 1, 2, 3", house(6, 1, 2, 3).flower(0, 3), -2);
+    x = house(6, 2, 3, 5, 9);
+    due("flower(0, 3) whose first is a neighbour", x.flower(0, 3), 1);
+    petals(x, 3, 5, 9);
+    x = house(6, 3, 4, 5, 9);
+    due("flower(0, 3) whose second is a neighbour", x.flower(0, 3), 1);
+    petals(x, 3, 5, 9);
     x = house(6, 35, 37, 41, 49, 33);
     due("flower(0, 5) with 63's things", x.flower(0, 5), 33);
     petals(x, 33, 35, 37, 41, 49);
@@ -953,6 +1019,11 @@ public final class PromisesTest {
     fill(x, 0, 0);
     due("cover(0)", x.cover(0), -2);
     due("cover(0) of none", house(3).cover(0), 0);
+    for (int i = 0; i < 4; i++) {
+      x.make(4, 0, 0);
+      fill(x, 4, 1 << i);
+      due("cover(4)", x.cover(4), 1 << i);
+    }
     due("cover(0) of every thing", house(6, 1, 2, 4, 8, 16, 32).cover(0), 63);
     due("cover(0): few things ahead of a small number", house(4, 9, 10, 12).cover(0), 8);
     familyAsked("cover(..)", (y, place) -> place == 0 ? 0 : y.cover(place));
@@ -969,6 +1040,9 @@ public final class PromisesTest {
     SetHouse x = house(6);
     x.rest(0, false, 0);
     due("loose(0) of all", x.loose(0), 7);
+    x.make(4, 0, 0);
+    fill(x, 4, 1, 2);
+    due("loose(4)", x.loose(4), 2);
     familyAsked("loose(..)", (y, place) -> place == 0 ? 0 : y.loose(place));
   }
 
@@ -987,6 +1061,11 @@ public final class PromisesTest {
     x.rest(0, false, 0);
     due("shattered(0, -1) of all", x.shattered(0, -1), 64);
     due("shattered(0, 63) of all", x.shattered(0, 63), 1);
+    x.make(4, 0, 0);
+    fill(x, 4, 1, 2);
+    due("shattered(4, -1)", x.shattered(4, -1), 3);
+    due("shattered(4, 3)", x.shattered(4, 3), 0);
+    due("shattered(4, 2)", x.shattered(4, 2), 1);
     familyAsked("shattered(.., -1)", (y, place) -> place == 0 ? 0 : y.shattered(place, -1));
     familyAsked("shattered(.., 3)", (y, place) -> place == 0 ? 0 : y.shattered(place, 3));
     outOfRange("shattered(.., 16)", (y, place) -> y.shattered(place, 16));
@@ -1057,6 +1136,11 @@ public final class PromisesTest {
     due("turns(0) of a ring of three of six", house(6, 3, 6, 5).turns(0), 36);
     due("turns(0) of a staircase", house(3, 1, 3).turns(0), 1);
     due("turns(0) of the whole and the empty", house(3, 0, 7).turns(0), 6);
+    SetHouse x = house(6, 1, 3, 7, 15, 31);
+    due("turns(0) of a staircase of six", x.turns(0), 1);
+    x.make(4, 0, 0);
+    fill(x, 4, 3);
+    due("turns(4)", x.turns(4), 48);
     familyAsked("turns(..)", (y, place) -> place == 0 ? 0 : y.turns(place));
   }
 
@@ -1219,6 +1303,15 @@ public final class PromisesTest {
     sets(x, 2, 1, 6);
     x.row(1, 6, 0);
     due("take(1, 2) of no numbers", x.take(1, 2), 0);
+    x.make(2, 0, 0);
+    putAll(x, 1, 6, 1, 2, 3, 4);
+    x.row(1, 6, 1);
+    x.put(1, 0, 5);
+    due("take(1, 2) of what the row has now", x.take(1, 2), 1);
+    sets(x, 2, 5);
+    x.row(1, 8, 64);
+    due("take(1, 2) of 64", x.take(1, 2), 64);
+    sets(x, 2, 0, 5);
     takeRefused();
   }
 
