@@ -768,10 +768,15 @@ public final class SetHouse {
             return NONE;
         }
 
-        /** The lesser one is least first, as of all KINDS: so it is the least that is lacking anywhere. */
+        /** DOWN alone tells the other one first: the first SET that lacks something, then the first that it lacks. */
         private static int downClash(long sets) {
-            int lacking = Heap.leastOf(Heap.allBelow(sets) & ~sets);
-            return lacking == NONE ? NONE : pair(lacking, Heap.next(sets & Heap.around(lacking), 0));
+            for (int s = Heap.next(sets, 0); s < MOST_SETS; s = Heap.next(sets, s + 1)) {
+                int lacking = Heap.leastOf(Heap.within(s) & ~sets);
+                if (lacking != NONE) {
+                    return pair(lacking, s);
+                }
+            }
+            return NONE;
         }
 
         private static int layerClash(long sets, int t) {

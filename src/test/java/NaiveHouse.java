@@ -207,16 +207,28 @@ public final class NaiveHouse {
     return i < l.size() ? l.get(i) : -2;
   }
 
+  private int isDown(TreeSet<Integer> x) {
+    for (int o : x) {
+      for (int u = 0; u < all; u++) {
+        if (within(u, o) && !x.contains(u)) {
+          clash = u + 64 * o;
+          return 0;
+        }
+      }
+    }
+    return 1;
+  }
+
   public int is(int place, int kind, int t) {
     if (!p(place) || !kindOk(kind, t)) return -1;
     if (fam(place) != 0) return fam(place);
     TreeSet<Integer> x = f(place).sets;
+    if (kind == 3) return isDown(x);
     for (int a = 0; a < all; a++) {
       for (int b = a; b < all; b++) {
         boolean bad = false;
         if (kind == 1) bad = a != b && x.contains(a) && x.contains(b) && (within(a, b) || within(b, a));
         if (kind == 2) bad = x.contains(a) && x.contains(b) && size(a & b) < t;
-        if (kind == 3) bad = !x.contains(a) && x.contains(b) && within(a, b);
         if (kind == 4) bad = a == b && x.contains(a) && size(a) != t;
         if (bad) {
           clash = a + 64 * b;

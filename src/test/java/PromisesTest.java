@@ -415,16 +415,6 @@ public final class PromisesTest {
     x = house(4, 3, 7, 12, 8);
     isNot(x, 2, 1, 3, 8);
 
-    x = house(3, 0, 1, 2, 3, 4);
-    due("is(0, 3, 0)", x.is(0, 3, 0), 1);
-    x = house(3, 0, 6, 7);
-    isNot(x, 3, 0, 1, 7);
-    x = house(3, 0, 2, 6, 7);
-    isNot(x, 3, 0, 1, 7);
-    x = house(3, 0, 1, 2, 6, 7);
-    isNot(x, 3, 0, 3, 7);
-    x = house(3, 7);
-    isNot(x, 3, 0, 0, 7);
     x = house(3);
     for (int kind = 0; kind <= 4; kind++) due("is(0, " + kind + ", 3) of none", x.is(0, kind, 3), 1);
     x = house(3, 0, 7);
@@ -453,7 +443,40 @@ public final class PromisesTest {
     fill(x, 9, 15);
     due("is(9, 4, 1)", x.is(9, 4, 1), 0);
     due("clash()", x.clash(), 15 * 65);
+    isDown();
     isWrong();
+  }
+
+  /** The first SET that lacks something is told, and the first that it lacks: not the least that is lacking. */
+  private static void isDown() {
+    SetHouse x = house(3, 0, 1, 2, 3, 4);
+    due("is(0, 3, 0)", x.is(0, 3, 0), 1);
+    x = house(3, 0, 6, 7);
+    isNot(x, 3, 0, 2, 6);
+    x = house(3, 0, 2, 6, 7);
+    isNot(x, 3, 0, 4, 6);
+    x = house(3, 0, 2, 4, 6, 7);
+    isNot(x, 3, 0, 1, 7);
+    x = house(3, 0, 1, 2, 6, 7);
+    isNot(x, 3, 0, 4, 6);
+    x = house(3, 7);
+    isNot(x, 3, 0, 0, 7);
+    x = house(3, 3, 5);
+    isNot(x, 3, 0, 0, 3);
+    x = house(4, 0, 6, 7, 10, 11, 12, 13, 14, 15);
+    isNot(x, 3, 0, 2, 6);
+    // 12 lacks 4 and 8; 13, the next one, lacks 1, which is less
+    x = house(4, 0, 12, 13);
+    isNot(x, 3, 0, 4, 12);
+    x = house(6, 0, 62, 63);
+    isNot(x, 3, 0, 2, 62);
+    x = house(6);
+    x.rest(0, false, 0);
+    due("is(0, 3, 0) of all", x.is(0, 3, 0), 1);
+    x.drop(0, 31);
+    isNot(x, 3, 0, 31, 63);
+    x.drop(0, 32);
+    isNot(x, 3, 0, 32, 33);
   }
 
   private static void isWrong() {

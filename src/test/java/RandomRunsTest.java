@@ -3,14 +3,20 @@ import java.lang.reflect.Method;
 import java.lang.reflect.Modifier;
 import java.util.ArrayList;
 import java.util.Arrays;
-import java.util.Comparator;
 import java.util.List;
 import java.util.Random;
 
 /** Long runs of calls, the same ones each time, on the program and on the naive one: all answers agree. */
 public final class RandomRunsTest {
-  private static final int RUNS = 1200;
+  private static final int RUNS = 2400;
+  /** An object is used for no more calls than the document allows. */
   private static final int CALLS = 512;
+  private static final int USUAL_PLACES = 5;
+  /** The most calls that one step of a run may add: a FAMILY that is filled, a call, and what is asked of it. */
+  private static final int MOST_AT_ONCE = 42;
+  private static final int ASKED_AT_END = USUAL_PLACES * (3 + 64);
+  private static final Method[] REAL = SetHouse.class.getDeclaredMethods();
+  private static final Method[] NAIVE = NaiveHouse.class.getDeclaredMethods();
 
   /** What the arguments of each call are, so that most of them are near what the call can use. */
   private static final String[] ROLES = {
@@ -55,7 +61,7 @@ public final class RandomRunsTest {
 
   private static Object argument(String role) {
     switch (role) {
-      case "place": return RANDOM.nextInt(12) == 0 ? near(0, 15) : near(0, 4);
+      case "place": return RANDOM.nextInt(12) == 0 ? near(0, 15) : near(0, USUAL_PLACES - 1);
       case "kind": return near(0, 4);
       case "t": return near(0, n);
       case "set": return RANDOM.nextInt(3) == 0 ? near(0, 7) : near(0, (1 << n) - 1);
@@ -98,39 +104,97 @@ public final class RandomRunsTest {
     throw new IllegalStateException(name);
   }
 
-  private static boolean agrees(int run, Method[] real, Method[] naive) throws IllegalAccessException {
+  /** The program and the naive one side by side, with the calls of one run so far. */
+  private static final class Pair {
+    final SetHouse house;
+    final NaiveHouse model;
+    final List<String> story = new ArrayList<>();
+    boolean agree = true;
+
+    Pair(int things) {
+      house = new SetHouse(things);
+      model = new NaiveHouse(things);
+      story.add("new SetHouse(" + things + ")");
+    }
+
+    int calls() {
+      return story.size() - 1;
+    }
+
+    void call(String name, Object... arguments) throws IllegalAccessException {
+      if (!agree || calls() >= CALLS) return;
+      String got = answer(named(REAL, name), house, arguments);
+      String due = answer(named(NAIVE, name), model, arguments);
+      story.add(name + Arrays.toString(arguments) + " " + got);
+      if (got.equals(due)) return;
+      agree = false;
+      System.out.println("n " + n + ": due was " + due + "; the last calls:");
+      for (String line : story.subList(Math.max(0, story.size() - 40), story.size())) System.out.println("  " + line);
+    }
+  }
+
+  /** A FAMILY with many SETS: single calls at random would leave nearly all of them with none or one. */
+  private static void fill(Pair pair) throws IllegalAccessException {
+    int place = RANDOM.nextInt(USUAL_PLACES);
+    int kind = RANDOM.nextInt(3) == 0 ? RANDOM.nextInt(5) : 0;
+    pair.call("make", place, kind, RANDOM.nextInt(n + 1));
+    if (RANDOM.nextInt(2) == 0) pair.call("add", place, 0);
+    int end = RANDOM.nextInt(2) == 0 ? 8 : 1 << n;
+    int times = 2 + RANDOM.nextInt(Math.min(end, 24));
+    for (int i = 0; i < times; i++) pair.call("add", place, RANDOM.nextInt(end));
+    for (int asked = 1; asked <= 4; asked++) {
+      pair.call("is", place, asked, RANDOM.nextInt(n + 1));
+      pair.call("clash");
+    }
+  }
+
+  private static void randomCall(Pair pair) throws IllegalAccessException {
+    boolean often = RANDOM.nextInt(3) == 0;
+    String[] call = often ? roles(OFTEN[RANDOM.nextInt(OFTEN.length)]) : ROLES[RANDOM.nextInt(ROLES.length)].split(" ");
+    if (call[0].equals("empty") && RANDOM.nextInt(3) != 0) return;
+    Object[] arguments = new Object[call.length - 1];
+    for (int a = 0; a < arguments.length; a++) arguments[a] = argument(call[a + 1]);
+    pair.call(call[0], arguments);
+    askWhatItLeft(pair, call[0]);
+  }
+
+  /** A CLASH or PETALS are asked for at once: left to chance, later calls would mostly have hidden them. */
+  private static void askWhatItLeft(Pair pair, String name) throws IllegalAccessException {
+    if (List.of("add", "drop", "is", "take").contains(name)) pair.call("clash");
+    if (name.equals("flower")) {
+      for (int i = 0; i < 5; i++) pair.call("petal", i);
+    }
+  }
+
+  private static void askAll(Pair pair) throws IllegalAccessException {
+    for (int place = 0; place < USUAL_PLACES; place++) {
+      pair.call("holds", place);
+      pair.call("count", place, 1);
+      pair.call("count", place, 2);
+      for (int s = 0; s < 1 << n; s++) pair.call("has", place, s);
+    }
+  }
+
+  /** One run in two is short, and all that stands on the usual PLACES is asked for at its end. */
+  private static boolean agrees(int run) throws IllegalAccessException {
     int things = RANDOM.nextInt(9) - 4;
     n = 3 + Math.floorMod(things, 4);
-    SetHouse house = new SetHouse(things);
-    NaiveHouse model = new NaiveHouse(things);
-    List<String> story = new ArrayList<>();
-    story.add("new SetHouse(" + things + ")");
-    for (int i = 0; i < CALLS; i++) {
-      boolean often = RANDOM.nextInt(3) == 0;
-      String[] call = often ? roles(OFTEN[RANDOM.nextInt(OFTEN.length)]) : ROLES[RANDOM.nextInt(ROLES.length)].split(" ");
-      if (call[0].equals("empty") && RANDOM.nextInt(3) != 0) continue;
-      Object[] arguments = new Object[call.length - 1];
-      for (int a = 0; a < arguments.length; a++) arguments[a] = argument(call[a + 1]);
-      String got = answer(named(real, call[0]), house, arguments);
-      String due = answer(named(naive, call[0]), model, arguments);
-      story.add(call[0] + Arrays.toString(arguments) + " " + got);
-      if (!got.equals(due)) {
-        int from = Math.max(0, story.size() - 40);
-        System.out.println("run " + run + ", n " + n + ": due was " + due + "; the last calls:");
-        for (String line : story.subList(from, story.size())) System.out.println("  " + line);
-        return false;
-      }
+    Pair pair = new Pair(things);
+    boolean whole = run % 2 == 0;
+    int end = whole ? 1 + RANDOM.nextInt(CALLS - ASKED_AT_END - MOST_AT_ONCE) : CALLS;
+    for (int i = 0; i < 2 * CALLS && pair.agree && pair.calls() < end; i++) {
+      if (i == 0 || RANDOM.nextInt(30) == 0) fill(pair);
+      randomCall(pair);
     }
-    return true;
+    if (whole) askAll(pair);
+    if (!pair.agree) System.out.println("that was run " + run);
+    return pair.agree;
   }
 
   public static void main(String[] args) throws IllegalAccessException {
-    Method[] real = SetHouse.class.getDeclaredMethods();
-    Method[] naive = NaiveHouse.class.getDeclaredMethods();
-    Arrays.sort(real, Comparator.comparing(Method::getName));
     int wrong = 0;
     for (int run = 0; run < RUNS && wrong < 3; run++) {
-      if (!agrees(run, real, naive)) wrong++;
+      if (!agrees(run)) wrong++;
     }
     System.out.println(wrong == 0 ? "all runs agree" : wrong + " runs do not agree");
     if (wrong != 0) System.exit(1);
