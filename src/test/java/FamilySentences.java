@@ -194,6 +194,18 @@ final class FamilySentences extends Sentences {
     rowOf(x, 1, 7, 6);
     due("take(1, 0)", x.take(1, 0), 0);
     due("clash() of take()", x.clash(), 2);
+    for (int i = 0; i < FamilyCalls.NAMES.length; i++) {
+      // is() that answers 0 is the one call that tells a CLASH and is not refused
+      if (FamilyCalls.NAMES[i].equals("is(.., 4, 0)")) continue;
+      for (int place : new int[] {0, 15}) {
+        x = Furnished.house(4);
+        FamilyCalls.call(x, i, 4, place);
+        due("clash() after " + FamilyCalls.NAMES[i] + " at " + place, x.clash(), Furnished.CLASH);
+      }
+    }
+    x = Furnished.house(4);
+    othersTaken(x);
+    due("clash() after calls that ask for no FAMILY", x.clash(), Furnished.CLASH);
 
     says("-2: there was none.");
     for (int n = 3; n <= 6; n++) {
@@ -206,6 +218,16 @@ final class FamilySentences extends Sentences {
       x.is(0, 0, 0);
       due("clash() where none was refused by -3", x.clash(), -2);
     }
+  }
+
+  /** Calls of a Furnished house that ask for no FAMILY, and are not refused. */
+  static void othersTaken(SetHouse x) {
+    long[] answers = {
+      x.make(11, 4, 2), x.first(2, 3, 12), x.greatest(2, 1, 13), x.row(14, 6, 3), x.put(14, 0, 5), x.copy(14, 0, 6, 0, 2),
+      element(x, 14, 0), x.holds(14), x.rank(5), x.ranked(2, 1), x.cascade(10, 3, 0), x.least(10, 3), x.chain(5, 0),
+      x.petal(0), x.empty(14), x.empty(4),
+    };
+    for (long answer : answers) due("a call that asks for no FAMILY is taken", Math.min(0, answer), 0);
   }
 
   private static void empty() {
@@ -396,8 +418,12 @@ final class FamilySentences extends Sentences {
     isNot(free(4, 3, 5, 12, 10), 2, 1, 3, 12);
     isNot(free(4, 9, 6, 15, 10), 2, 1, 6, 9);
     isNot(free(6, 31, 32), 2, 1, 31, 32);
-    // 1 has 6, which is above it; 4 within 6 has a lesser other, but is no lesser one itself
+    // 4 lies within 6, which is less than 9; but 1, which lies within 9, is less than 4
     isNot(free(4, 1, 4, 6, 9), 1, 0, 1, 9);
+    // numbers side by side: none is passed over
+    isNot(free(4, 1, 2, 6), 1, 0, 2, 6);
+    isNot(free(5, 9, 10, 17), 2, 1, 10, 17);
+    isNot(free(4, 1, 2, 3), 2, 1, 1, 2);
 
     says("of LAYER, MEET with itself: twice the same;");
     isNot(free(4, 3, 5, 7, 1), 4, 2, 1, 1);
@@ -405,6 +431,7 @@ final class FamilySentences extends Sentences {
     isNot(free(6, 0), 4, 1, 0, 0);
     isNot(free(4, 7, 11, 3), 2, 3, 3, 3);
     isNot(free(4, 8, 9), 2, 2, 8, 8);
+    isNot(free(4, 3, 4), 4, 2, 4, 4);
     // 3 shares nothing with 8: 3 is the lesser one, though 8 has too little in itself
     isNot(free(4, 3, 8), 2, 2, 3, 8);
     isNot(free(6, 0), 2, 1, 0, 0);
@@ -415,6 +442,7 @@ final class FamilySentences extends Sentences {
     isNot(free(3, 0, 6, 7), 3, 0, 2, 6);
     // 12 lacks 4 and 8; 13, the next one, lacks 1, which is less
     isNot(free(4, 0, 12, 13), 3, 0, 4, 12);
+    isNot(free(4, 0, 4, 5), 3, 0, 1, 5);
     isNot(free(6, 0, 63), 3, 0, 1, 63);
     isNot(free(6, 63), 3, 0, 0, 63);
     due("is(0, 3, 0) of {the empty SET}", free(3, 0).is(0, 3, 0), 1);

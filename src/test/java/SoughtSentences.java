@@ -43,6 +43,13 @@ final class SoughtSentences extends Sentences {
     x = free(6, 1, 6, 10, 18, 7);
     due("flower(0, 3)", x.flower(0, 3), 2);
     petals(x, 6, 10, 18);
+    // SETS whose numbers stand side by side: none is passed over, as a first one or a second
+    x = free(6, 2, 3, 5, 9);
+    due("flower(0, 3)", x.flower(0, 3), 1);
+    petals(x, 3, 5, 9);
+    x = free(6, 3, 4, 5, 9);
+    due("flower(0, 3)", x.flower(0, 3), 1);
+    petals(x, 3, 5, 9);
     // of those with 1 and 2 the least third one
     x = free(6, 1, 2, 4, 12, 16, 32);
     due("flower(0, 3)", x.flower(0, 3), 0);
@@ -94,6 +101,15 @@ final class SoughtSentences extends Sentences {
     x.empty(1);
     x.make(0, 0, 0);
     petals(x, 3, 5);
+    for (int i = 0; i < FamilyCalls.NAMES.length; i++) {
+      if (FamilyCalls.NAMES[i].startsWith("flower")) continue;
+      x = Furnished.house(4);
+      FamilyCalls.call(x, i, 4, 0);
+      petals(x, 3, 5);
+    }
+    x = Furnished.house(4);
+    FamilySentences.othersTaken(x);
+    petals(x, 3, 5);
 
     says("-2: none such (i below 0, too).");
     for (int n = 3; n <= 6; n++) {
@@ -122,6 +138,9 @@ final class SoughtSentences extends Sentences {
       due("cover(0) of each thing", free(n, layer(n, 1)).cover(0), last);
       due("cover(0) of all that lack one thing", free(n, layer(n, n - 1)).cover(0), 3);
       due("cover(0) of all that have two things", free(n, layer(n, 2)).cover(0), (1 << n - 1) - 1);
+      for (int i = 0; i < n; i++) due("cover(0) of thing " + i, free(n, 1 << i).cover(0), 1 << i);
+      // 3 and 5 are less, but each covers one of the two alone
+      due("cover(0) of 2 and 4", free(n, 2, 4).cover(0), 6);
       // the last thing covers all; with fewer numbers it would take two
       SetHouse x = free(n);
       for (int i = 0; i < n - 1; i++) fill(x, 0, (1 << i) + (1 << n - 1));

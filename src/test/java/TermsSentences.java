@@ -330,6 +330,10 @@ final class TermsSentences extends Sentences {
       y = free(n, low(n - 1), low(n));
       y.cross(1, 0, n);
       cannotCome(y, 1, low(n), low(n - 1));
+      // with the empty SET nothing has anything in common
+      y = free(n, 0, low(n));
+      y.cross(1, 0, 1);
+      for (int s = 0; s < 1 << n; s++) cannotCome(y, 1, s, 0);
     }
   }
 

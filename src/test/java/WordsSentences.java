@@ -120,16 +120,17 @@ final class WordsSentences extends Sentences {
     SetHouse x = free(3, 6);
     due("pushed(0) of {1, 2}", x.pushed(0), 2);
     sets(x, 0, 3);
-    // 3 to 0 makes 5 of 12, then 3 to 1 finds nothing; were 2 PUSHED last, another count would come
+    // 1 to 0: 9, 12; 2 to 0: no, 9 is there; 2 to 1: 9, 10; 3 to 0: 3, 9; 3 to 1: no, 3 is there; 3 to 2: 3, 5
     x = free(4, 12, 10);
-    due("pushed(0) of 10 and 12", x.pushed(0), pushesByHand(4, 12, 10));
+    due("pushed(0) of 10 and 12", x.pushed(0), 4);
+    sets(x, 0, 3, 5);
 
     says("again and again till such a round changes nothing.");
     for (int n = 3; n <= 6; n++) {
       due("pushed(0) of none", free(n).pushed(0), 0);
       due("pushed(0) of all", full(n).pushed(0), 0);
       x = free(n);
-      // 37 is odd: these are 12 SETS (of three things fewer) that lie about at random
+      // SETS that lie about: 37 is odd, so that none comes twice unless all are there
       for (int s = 0; s < 12; s++) x.add(0, (37 * s + 11) % (1 << n));
       x.pushed(0);
       due("pushed(0) again", x.pushed(0), 0);
@@ -137,23 +138,12 @@ final class WordsSentences extends Sentences {
     }
   }
 
-  /** How many PUSHES change something, each made by push(). */
-  private static int pushesByHand(int n, int... sets) {
-    SetHouse x = free(n, sets);
-    int changes = 0;
-    for (int round = 0; round < 3; round++) {
-      for (int i = 1; i < n; i++) for (int j = 0; j < i; j++) changes += x.push(0, i, j) > 0 ? 1 : 0;
-    }
-    return changes;
-  }
-
   private static void matchedThings() {
     says("CHAINS: things are read from 0 on: one that is in a SET is ), one that isn't is (;");
     for (int n = 3; n <= 6; n++) {
       SetHouse x = new SetHouse(n - 3);
-      // ( ) ( ( ..: read from the other end thing 1 would have a ( too, but 0 would not
-      due("chain(2, 1): thing 1 is matched", x.chain(2, 1), 2);
-      due("chain(1, 1): thing 0 is not", x.chain(1, 1), 0);
+      due("chain(2, 1): thing 1 has a ( before it", x.chain(2, 1), 2);
+      due("chain(1, 1): thing 0 has none", x.chain(1, 1), 0);
       due("chain(2^(n - 1), 1): the last thing is", x.chain(1 << n - 1, 1), 1 << n - 1);
     }
 
@@ -263,7 +253,8 @@ final class WordsSentences extends Sentences {
         int before = choose(a, k) - 1;
         if (before > 0) due("cascade(" + before + ", " + k + ", 0)", x.cascade(before, k, 0), k == 1 ? before : a - 1);
         if (k > 1 && choose(a, k) < 1000) {
-          due("cascade(C(a, k) + 1, k, 0)", x.cascade(choose(a, k) + 1, k, 0), choose(a + 1, k) == choose(a, k) + 1 ? a + 1 : a);
+          // C(a + 1, k) is at least 2 more, since k is above 1
+          due("cascade(C(a, k) + 1, k, 0)", x.cascade(choose(a, k) + 1, k, 0), a);
         }
       }
       due("cascade(1, " + k + ", 0)", x.cascade(1, k, 0), k);
@@ -411,7 +402,7 @@ final class WordsSentences extends Sentences {
     Furnished.refused(4, "set(0, 2)", (x, a) -> x.set(0, 2), -2);
     Furnished.refused(4, "flower(0, 3)", (x, a) -> x.flower(0, 3), -2);
     Furnished.refused(4, "cover(15)", (x, a) -> x.cover(15), -2);
-    Furnished.refused(4, "same(0, 1)", (x, a) -> x.same(0, 15), -2);
+    Furnished.refused(4, "same(0, 15)", (x, a) -> x.same(0, 15), -2);
     Furnished.refused(4, "ranked(2, 6)", (x, a) -> x.ranked(2, 6), -2);
 
     says("-3 the KIND would not stay so;");
