@@ -167,7 +167,7 @@ public final class SetHouse {
         return 0;
     }
 
-    // ---- made out of others
+    // ---- made out of others; they come to a PLACE: how many SETS there are
 
     public int shadow(int place, int to) {
         int refusal = familyRefusal(place, isPlace(to));
@@ -457,7 +457,7 @@ public final class SetHouse {
         if (Heap.size(one) != Heap.size(two)) {
             return NO_SUCH_ONE;
         }
-        return Orders.leastTurn(one, two, Orders.unturned(n), 0, n);
+        return Orders.leastTurn(one, two, n);
     }
 
     public int turns(int place) {
@@ -465,7 +465,7 @@ public final class SetHouse {
         if (refusal != FINE) {
             return refusal;
         }
-        return Orders.countTurns(shelf[place].sets, shelf[place].sets, 0, n);
+        return Orders.countTurns(shelf[place].sets, n);
     }
 
     // ---- rows
@@ -1008,7 +1008,7 @@ public final class SetHouse {
             return seen == (1 << n) - 1;
         }
 
-        static int unturned(int n) {
+        private static int unturned(int n) {
             int turn = 0;
             for (int i = 0; i < n; i++) {
                 turn |= i << (3 * i);
@@ -1041,12 +1041,22 @@ public final class SetHouse {
             return set;
         }
 
+        /** The least TURN that makes of the one FAMILY the other, or NONE. */
+        static int leastTurn(long one, long two, int n) {
+            return leastTurnFrom(one, two, unturned(n), 0, n);
+        }
+
+        /** How many TURNS leave a FAMILY as it is. */
+        static int countTurns(long sets, int n) {
+            return countTurnsFrom(sets, sets, 0, n);
+        }
+
         /**
-         * The least TURN that makes the one FAMILY of the other, where it is told already what the
-         * first things become. The other is carried along turned back: its thing i is what i becomes.
-         * Swapping the next thing with each later one in turn brings them to it in rising order.
+         * As leastTurn(), where it is told already what the first things become. The other FAMILY is
+         * carried along turned back: its thing i is what i becomes. Swapping the next thing with each
+         * later one in turn brings them to it in rising order.
          */
-        static int leastTurn(long one, long two, int turn, int told, int n) {
+        private static int leastTurnFrom(long one, long two, int turn, int told, int n) {
             if (!agree(one, two, told)) {
                 return NONE;
             }
@@ -1058,7 +1068,7 @@ public final class SetHouse {
             for (int i = told; i < n; i++) {
                 other = Heap.swapped(other, told, i);
                 order = swapDigits(order, told, i);
-                int found = leastTurn(one, other, order, told + 1, n);
+                int found = leastTurnFrom(one, other, order, told + 1, n);
                 if (found != NONE) {
                     return found;
                 }
@@ -1066,7 +1076,7 @@ public final class SetHouse {
             return NONE;
         }
 
-        static int countTurns(long one, long two, int told, int n) {
+        private static int countTurnsFrom(long one, long two, int told, int n) {
             if (!agree(one, two, told)) {
                 return 0;
             }
@@ -1077,7 +1087,7 @@ public final class SetHouse {
             int found = 0;
             for (int i = told; i < n; i++) {
                 other = Heap.swapped(other, told, i);
-                found += countTurns(one, other, told + 1, n);
+                found += countTurnsFrom(one, other, told + 1, n);
             }
             return found;
         }

@@ -12,7 +12,7 @@ import java.util.TreeSet;
 import java.util.regex.Matcher;
 import java.util.regex.Pattern;
 
-/** The face of the class is the document's, and the rules of LANGUAGE.md that can be read off are kept. */
+/** The face of the class is the document's and nothing more (rule 1 of LANGUAGE.md). */
 public final class FaceTest {
   private static final String[] FACE = {
     "int add(int,int)", "int cascade(int,int,int)", "int chain(int,int)", "int clash()",
@@ -27,15 +27,6 @@ public final class FaceTest {
     "int shattered(int,int)", "int sum(int)", "int take(int,int)", "int toss(int)",
     "int trace(int,int,int)", "int turned(int,int,int)", "int turns(int)", "int up(int,int)",
     "long element(int,int)", "long weight(int,int,int)",
-  };
-
-  /** Words that the rules leave out of the program. */
-  private static final String[] OUTSIDE = {
-    "->", "::", "finally", "synchronized", "assert", "import", "package", "Exact(", "java.", "record ",
-    "getMessage", "System.out", "System.err", "nanoTime", "currentTimeMillis", "Random", "Thread", "hashCode",
-    "ArrayIndexOutOfBoundsException", "NullPointerException", "ArithmeticException", "ClassCastException",
-    "NegativeArraySizeException", "ArrayStoreException", "catch (RuntimeException", "catch (Exception",
-    "catch (Throwable", "catch (IndexOutOfBoundsException",
   };
 
   private static int wrong = 0;
@@ -77,53 +68,59 @@ public final class FaceTest {
       check(Modifier.isPrivate(m.getModifiers()), m.getName() + " is private");
       check(!names.contains(m.getName()), m.getName() + " bears a name of the face");
     }
-    for (Field f : SetHouse.class.getDeclaredFields()) check(Modifier.isPrivate(f.getModifiers()), f.getName() + " is private");
+    for (Field f : SetHouse.class.getDeclaredFields()) {
+      check(Modifier.isPrivate(f.getModifiers()), f.getName() + " is private");
+    }
     for (Class<?> c : SetHouse.class.getDeclaredClasses()) {
       check(Modifier.isStatic(c.getModifiers()), c.getName() + " is static");
-      for (Method m : c.getDeclaredMethods()) check(!names.contains(m.getName()), m.getName() + " bears a name of the face");
-    }
-  }
-
-  private static void sizes() {
-    List<Class<?>> classes = new ArrayList<>(Arrays.asList(SetHouse.class.getDeclaredClasses()));
-    classes.add(SetHouse.class);
-    check(classes.size() <= 12, "at most twelve classes");
-    for (Class<?> c : classes) {
-      int fields = 0;
-      for (Field f : c.getDeclaredFields()) {
-        if (Modifier.isStatic(f.getModifiers())) check(Modifier.isFinal(f.getModifiers()), f.getName() + " is final");
-        else fields++;
+      for (Method m : c.getDeclaredMethods()) {
+        check(!names.contains(m.getName()), m.getName() + " bears a name of the face");
       }
-      check(fields <= 20, c.getName() + " has at most twenty fields");
-      for (Method m : c.getDeclaredMethods()) check(m.getParameterCount() <= 7, m.getName() + " takes at most seven");
     }
   }
 
-  private static void text(String source) {
-    String code = source.replaceAll("(?s)/\\*.*?\\*/", "").replaceAll("//[^\n]*", "");
-    for (String word : OUTSIDE) check(!code.contains(word), "'" + word + "' is not in the program");
-    for (char c : source.toCharArray()) check(c == '\n' || c >= 32 && c < 127, "a sign is one of 32 to 126");
-    Matcher thrown = Pattern.compile("throw ([^;(]*)\\(").matcher(code);
-    while (thrown.find()) {
-      check(thrown.group(1).matches("new Illegal(Argument|State)Exception"), "throws as rule 6 says: " + thrown.group(1));
+  /** The document's own face has the same calls, told as Java tells them: without names and exceptions. */
+  private static void sameAsDocument(String document) {
+    TreeSet<String> told = new TreeSet<>();
+    Matcher call = Pattern.compile("    public (int|long) (\\w+)\\(([^)]*)\\)").matcher(document);
+    while (call.find()) {
+      String types = call.group(3).replaceAll(", *", ",").replaceAll(" \\w+", "");
+      told.add(call.group(1) + " " + call.group(2) + "(" + types + ")");
     }
-    int start = 0;
-    String[] lines = source.split("\n");
-    for (int i = 0; i < lines.length; i++) {
-      if (lines[i].matches(" {4}( {4})?(public|private|static|int|long|boolean|void) .*\\) (throws .*)?\\{")) start = i;
-      if (lines[i].matches("    ( {4})?}")) check(i - start < 60, "a method of at most sixty lines ends at " + (i + 1));
-      check(lines[i].length() <= 120, "line " + (i + 1) + " is not too long");
+    check(told.equals(new TreeSet<>(Arrays.asList(FACE))), "the document's face is the one that is tested: " + told);
+  }
+
+  /** "Ahead of the calls .. the interface says: ---- ..": so does the program, and the calls come in that order. */
+  private static void headings(String document, String source) {
+    int from = 0;
+    int found = 0;
+    Matcher heading = Pattern.compile("Ahead of the calls (.*?) the interface says: (---- .*?)\\.\n").matcher(document);
+    while (heading.find()) {
+      found++;
+      int at = source.indexOf("    // " + heading.group(2) + "\n", from);
+      check(at >= 0, "the program says, in its place: " + heading.group(2));
+      from = Math.max(from, at);
+      for (String name : heading.group(1).replaceAll("[`,]", "").split(" ")) {
+        int call = source.indexOf(" " + name + "(", from);
+        int next = source.indexOf("    // ---- ", from + 1);
+        check(call >= 0 && (next < 0 || call < next), name + " stands below " + heading.group(2));
+        from = Math.max(from, call);
+      }
     }
+    check(found == 5, "the document has five headings of calls");
   }
 
   /** The source is looked for below the working folder, or where the caller says. */
   public static void main(String[] args) throws IOException {
     Path source = Path.of(args.length > 0 ? args[0] : "src/main/java/SetHouse.java");
+    Path document = Path.of("../shared/DOC.md");
     face();
-    sizes();
     check(Files.exists(source), source + " is there");
-    if (Files.exists(source)) text(Files.readString(source));
-    System.out.println(wrong == 0 ? "the face and the rules are kept" : wrong + " things are not so");
+    if (Files.exists(document)) {
+      sameAsDocument(Files.readString(document));
+      if (Files.exists(source)) headings(Files.readString(document), Files.readString(source));
+    }
+    System.out.println(wrong == 0 ? "the face is the document's" : wrong + " things are not so");
     if (wrong != 0) System.exit(1);
   }
 }

@@ -1,22 +1,14 @@
-import java.lang.reflect.InvocationTargetException;
-import java.lang.reflect.Method;
-import java.lang.reflect.Modifier;
 import java.util.ArrayList;
-import java.util.Arrays;
 import java.util.List;
 import java.util.Random;
 
 /** Long runs of calls, the same ones each time, on the program and on the naive one: all answers agree. */
 public final class RandomRunsTest {
   private static final int RUNS = 2400;
-  /** An object is used for no more calls than the document allows. */
-  private static final int CALLS = 512;
   private static final int USUAL_PLACES = 5;
   /** The most calls that one step of a run may add: a FAMILY that is filled, a call, and what is asked of it. */
   private static final int MOST_AT_ONCE = 42;
   private static final int ASKED_AT_END = USUAL_PLACES * (3 + 64);
-  private static final Method[] REAL = SetHouse.class.getDeclaredMethods();
-  private static final Method[] NAIVE = NaiveHouse.class.getDeclaredMethods();
 
   /** What the arguments of each call are, so that most of them are near what the call can use. */
   private static final String[] ROLES = {
@@ -86,55 +78,13 @@ public final class RandomRunsTest {
     }
   }
 
-  private static String answer(Method method, Object on, Object[] arguments) throws IllegalAccessException {
-    try {
-      return String.valueOf(method.invoke(on, arguments));
-    } catch (InvocationTargetException e) {
-      return "throws." + e.getCause().getClass().getSimpleName();
-    }
-  }
-
-  private static Method named(Method[] methods, String name) {
-    for (Method m : methods) if (m.getName().equals(name) && Modifier.isPublic(m.getModifiers())) return m;
-    throw new IllegalStateException(name);
-  }
-
   private static String[] roles(String name) {
     for (String line : ROLES) if (line.split(" ")[0].equals(name)) return line.split(" ");
     throw new IllegalStateException(name);
   }
 
-  /** The program and the naive one side by side, with the calls of one run so far. */
-  private static final class Pair {
-    final SetHouse house;
-    final NaiveHouse model;
-    final List<String> story = new ArrayList<>();
-    boolean agree = true;
-
-    Pair(int things) {
-      house = new SetHouse(things);
-      model = new NaiveHouse(things);
-      story.add("new SetHouse(" + things + ")");
-    }
-
-    int calls() {
-      return story.size() - 1;
-    }
-
-    void call(String name, Object... arguments) throws IllegalAccessException {
-      if (!agree || calls() >= CALLS) return;
-      String got = answer(named(REAL, name), house, arguments);
-      String due = answer(named(NAIVE, name), model, arguments);
-      story.add(name + Arrays.toString(arguments) + " " + got);
-      if (got.equals(due)) return;
-      agree = false;
-      System.out.println("n " + n + ": due was " + due + "; the last calls:");
-      for (String line : story.subList(Math.max(0, story.size() - 40), story.size())) System.out.println("  " + line);
-    }
-  }
-
   /** A FAMILY with many SETS: single calls at random would leave nearly all of them with none or one. */
-  private static void fill(Pair pair) throws IllegalAccessException {
+  private static void fill(Pair pair) {
     int place = RANDOM.nextInt(USUAL_PLACES);
     int kind = RANDOM.nextInt(3) == 0 ? RANDOM.nextInt(5) : 0;
     pair.call("make", place, kind, RANDOM.nextInt(n + 1));
@@ -148,7 +98,7 @@ public final class RandomRunsTest {
     }
   }
 
-  private static void randomCall(Pair pair) throws IllegalAccessException {
+  private static void randomCall(Pair pair) {
     boolean often = RANDOM.nextInt(3) == 0;
     String[] call = often ? roles(OFTEN[RANDOM.nextInt(OFTEN.length)]) : ROLES[RANDOM.nextInt(ROLES.length)].split(" ");
     if (call[0].equals("empty") && RANDOM.nextInt(3) != 0) return;
@@ -159,39 +109,34 @@ public final class RandomRunsTest {
   }
 
   /** A CLASH or PETALS are asked for at once: left to chance, later calls would mostly have hidden them. */
-  private static void askWhatItLeft(Pair pair, String name) throws IllegalAccessException {
+  private static void askWhatItLeft(Pair pair, String name) {
     if (List.of("add", "drop", "is", "take").contains(name)) pair.call("clash");
     if (name.equals("flower")) {
       for (int i = 0; i < 5; i++) pair.call("petal", i);
     }
   }
 
-  private static void askAll(Pair pair) throws IllegalAccessException {
-    for (int place = 0; place < USUAL_PLACES; place++) {
-      pair.call("holds", place);
-      pair.call("count", place, 1);
-      pair.call("count", place, 2);
-      for (int s = 0; s < 1 << n; s++) pair.call("has", place, s);
-    }
+  private static void askAll(Pair pair) {
+    for (int place = 0; place < USUAL_PLACES; place++) pair.ask(place);
   }
 
   /** One run in two is short, and all that stands on the usual PLACES is asked for at its end. */
-  private static boolean agrees(int run) throws IllegalAccessException {
+  private static boolean agrees(int run) {
     int things = RANDOM.nextInt(9) - 4;
     n = 3 + Math.floorMod(things, 4);
     Pair pair = new Pair(things);
     boolean whole = run % 2 == 0;
-    int end = whole ? 1 + RANDOM.nextInt(CALLS - ASKED_AT_END - MOST_AT_ONCE) : CALLS;
-    for (int i = 0; i < 2 * CALLS && pair.agree && pair.calls() < end; i++) {
+    int end = whole ? 1 + RANDOM.nextInt(Pair.CALLS - ASKED_AT_END - MOST_AT_ONCE) : Pair.CALLS;
+    for (int i = 0; i < 2 * Pair.CALLS && pair.agrees() && pair.calls() < end; i++) {
       if (i == 0 || RANDOM.nextInt(30) == 0) fill(pair);
       randomCall(pair);
     }
     if (whole) askAll(pair);
-    if (!pair.agree) System.out.println("that was run " + run);
-    return pair.agree;
+    if (!pair.agrees()) System.out.println("that was run " + run);
+    return pair.agrees();
   }
 
-  public static void main(String[] args) throws IllegalAccessException {
+  public static void main(String[] args) {
     int wrong = 0;
     for (int run = 0; run < RUNS && wrong < 3; run++) {
       if (!agrees(run)) wrong++;

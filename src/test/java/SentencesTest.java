@@ -7,7 +7,7 @@ import java.nio.file.Path;
  * and the first that is refused, the empty and the full, where numbers run over, and each refusal in its order.
  */
 public final class SentencesTest {
-  /** What says no more than which calls stand together: there is nothing in it that a test could see broken. */
+  /** What says no more than which calls stand together: no answer shows that, but FaceTest reads it off the program. */
   private static final String[] NO_BOUNDARY = {
     "Ahead of the calls `make`, `cross`, `add`, `drop`, `clash`, `empty`, `holds`, `count`, `has`, `set`, `is`"
       + " the interface says: ---- families.",
